@@ -145,6 +145,11 @@ public final class PromiseTest {
         Check.same("6 product", x.exact(INT, 1, 2, 2), -1);
         isInt("6", x, 1, -2);
         Check.same("6 it less itself", x.exact(INT, 3, 3, 1), 0);
+        Modrings z = withLongs(-5, 3);
+        Check.same("6 below 0 less above 0", z.exact(LONG, 0, 1, 1), -1);
+        isLong("6", z, 0, -8);
+        Check.same("6 above 0 less below 0", z.exact(LONG, 1, 0, 1), 1);
+        isLong("6", z, 1, 11);
         Modrings y = withLongs(LMAX, 1, LMIN, -1);
         Check.same("6 LONG sum beyond", y.exact(LONG, 0, 1, 0), REFUSED);
         Check.same("6 LONG less beyond", y.exact(LONG, 2, 1, 1), REFUSED);
