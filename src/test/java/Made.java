@@ -116,4 +116,27 @@ final class Made {
         parts[REFUSALS + 1] = Integer.toString(x.house(1));
         return parts;
     }
+
+    /** What digest() is due to tell, put together from the other answers of the face. */
+    static long digest(Modrings x, boolean isSound) {
+        long d = 7837;
+        for (int what = 0; what < 4; what++) {
+            d = d * 31 + x.house(what);
+        }
+        for (boolean isLong : KINDS) {
+            for (int k = 0; k < 4; k++) {
+                for (int what = 0; what < 5; what++) {
+                    d = d * 31 + x.ofNumber(isLong, k, what);
+                }
+            }
+        }
+        for (int ring = 0; ring < 3; ring++) {
+            String line = x.ringText(ring);
+            d = d * 31 + Long.parseLong(line.substring(0, line.indexOf(':')));
+            for (int slot = 0; slot < 4; slot++) {
+                d = d * 31 + x.residue(ring, slot);
+            }
+        }
+        return d * 31 + (isSound ? 1 : 0);
+    }
 }

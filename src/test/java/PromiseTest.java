@@ -817,32 +817,9 @@ public final class PromiseTest {
         }
     }
 
-    /** What digest() is made of, by the public answers. */
-    private static long dueDigest(Modrings x) {
-        long d = 7837;
-        for (int what = 0; what < 4; what++) {
-            d = d * 31 + x.house(what);
-        }
-        for (boolean isLong : new boolean[] {INT, LONG}) {
-            for (int k = 0; k < 4; k++) {
-                for (int what = 0; what < 5; what++) {
-                    d = d * 31 + x.ofNumber(isLong, k, what);
-                }
-            }
-        }
-        for (int ring = 0; ring < 3; ring++) {
-            String line = x.ringText(ring);
-            d = d * 31 + Long.parseLong(line.substring(0, line.indexOf(':')));
-            for (int slot = 0; slot < 4; slot++) {
-                d = d * 31 + x.residue(ring, slot);
-            }
-        }
-        return d * 31 + (x.isSound() ? 1 : 0);
-    }
-
     private static void promise43() {
         Modrings x = new Modrings();
-        Check.same("43 new", x.digest(), dueDigest(x));
+        Check.same("43 new", x.digest(), Made.digest(x, true));
         x.put(INT, 1, 0, -40);
         Made.putLong(x, 2, LMIN + 12345);
         x.bring(2, 1, LONG, 2);
@@ -851,8 +828,8 @@ public final class PromiseTest {
         x.alone(INT, 0, 2);
         x.floor(INT, 1, 2, true);
         x.knock();
-        Check.same("43", x.digest(), dueDigest(x));
-        Check.same("43 again", x.digest(), dueDigest(x));
+        Check.same("43", x.digest(), Made.digest(x, true));
+        Check.same("43 again", x.digest(), Made.digest(x, true));
     }
 
     public static void main(String[] args) {
